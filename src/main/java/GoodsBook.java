@@ -31,7 +31,7 @@ public final class GoodsBook {
   private final Sheets sheets = new Sheets();
   private final Floor floor = new Floor(now.goods);
   private final Draft draft = new Draft(now, floor);
-  private final Search search = new Search(draft);
+  private final Search search = new Search(draft, now.bonds);
   private final Sack sack = new Sack(now.goods);
   private final int[] laid = new int[MOST_GOODS];
   private final Answer bestKnown = new Answer();
@@ -61,7 +61,7 @@ public final class GoodsBook {
 
   public int good(int kind, int family) {
     if (!within(kind, PLAIN, FILLER) || !within(family, 0, 3)) return BAD;
-    int number = now.addGood(kind, family);
+    int number = now.goods.add(kind, family);
     forgetSizes();
     return number;
   }
@@ -161,7 +161,7 @@ public final class GoodsBook {
 
   public int worth() {
     drawPlan();
-    return draft.reckon(now.goods.held);
+    return draft.amount();
   }
 
   public int breaks(int what) {
@@ -228,7 +228,7 @@ public final class GoodsBook {
   public int bound() {
     int sum = SIXTIETHS * now.bonds.sumAboveZero();
     draft.begin(-1, -1);
-    for (int good = 0; good < now.goods.held; good++) sum += draft.mostOf(good);
+    for (int good = 0; good < now.goods.held; good++) sum += draft.mostOf(good, now.goods.held);
     return sum;
   }
 
@@ -236,7 +236,7 @@ public final class GoodsBook {
     if (!within(what, ASK_COUNT, now.goods.held - 1)) return BOTH + BAD;
     if (!stepsKnown.known) {
       drawPlan();
-      if (!draft.isSound()) return BOTH + NOT;
+      if (draft.firstBroken() != NONE || draft.firstCrowded() != NONE) return BOTH + NOT;
       int count = search.climb();
       stepsKnown.keep(draft.row, search.amount, count);
     }
@@ -258,9 +258,9 @@ public final class GoodsBook {
     if (!isGood(good)) return BOTH + BAD;
     if (now.choices[good] == 0) return BOTH + NONE;
     drawPlan();
-    int others = draft.reckon(now.goods.held) - draft.share(good, 0);
+    int others = draft.amount() - draft.share(good, 0);
     draft.put(good, 0);
-    return others - draft.reckon(now.goods.held);
+    return others - draft.amount();
   }
 
   public int mended(int good, int what) {
@@ -551,19 +551,13 @@ public final class GoodsBook {
     final Years years = new Years();
     /** LEADS, COST, POST. */
     final int[] settings = {5, 0, 0};
-    /** THE PLAN. */
+    /** THE PLAN; beyond the GOODS that there are all is 0, so that a new one is out. */
     final int[] choices = new int[MOST_GOODS];
 
     int addPage(int views60) {
       if (pages >= MOST_PAGES) return FULL;
       views[pages] = views60;
       return pages++;
-    }
-
-    int addGood(int kind, int family) {
-      int number = goods.add(kind, family);
-      if (number >= 0) choices[number] = 0;
-      return number;
     }
 
     boolean isChoice(int choice) {
@@ -633,9 +627,10 @@ public final class GoodsBook {
 
     boolean lies(int code) {
       if (known[code] == UNKNOWN) {
-        int left = pick(code);
-        int spare = spareOf(left);
-        known[code] = (byte) (spare >= 0 && canLie(this, 0, left, 0, spare) ? FIT : UNFIT);
+        int all = pick(code);
+        int left = larger(all);
+        boolean isFit = areaOf(all) <= SQUARES && canLie(this, 0, left, 0, SQUARES - areaOf(left));
+        known[code] = (byte) (isFit ? FIT : UNFIT);
       }
       return known[code] == FIT;
     }
@@ -643,22 +638,22 @@ public final class GoodsBook {
     /** Puts THE LAYING of the code's GOODS into a row, if they FIT. */
     boolean lay(int code, int[] row) {
       if (!lies(code)) return false;
-      int left = pick(code);
-      int spare = spareOf(left);
+      int rest = pick(code);
       int taken = 0;
       for (int good = 0; good < MOST_GOODS; good++) {
-        if ((left >> good & 1) == 0) continue;
-        left &= ~(1 << good);
-        row[good] = firstSquare(good, taken, left, spare);
+        if ((rest >> good & 1) == 0) continue;
+        rest &= ~(1 << good);
+        row[good] = firstSquare(good, taken, larger(rest));
         taken |= spots[piece[good] * SQUARES + row[good]];
       }
       return true;
     }
 
-    private int firstSquare(int good, int taken, int left, int spare) {
+    private int firstSquare(int good, int taken, int left) {
       for (int square = 0; square < SQUARES; square++) {
         int spot = spots[piece[good] * SQUARES + square];
         if (spot == 0 || (spot & taken) != 0) continue;
+        int spare = SQUARES - Integer.bitCount(taken | spot) - areaOf(left);
         if (canLie(this, taken | spot, left, 0, spare)) return square;
       }
       return 0;
@@ -666,7 +661,7 @@ public final class GoodsBook {
 
     /**
      * Whether the GOODS left can lie on squares not taken: the first free one from a square on is either
-     * the corner of one of them or stays empty, of which there may be so many to spare.
+     * the corner of one of them or is left empty, as so many may be.
      */
     private static boolean canLie(Floor floor, int taken, int left, int from, int spare) {
       if (left == 0) return true;
@@ -684,43 +679,56 @@ public final class GoodsBook {
 
     /** Takes the pieces of a code in hand: its GOODS as bits. */
     private int pick(int code) {
-      int left = 0;
+      int all = 0;
       int rest = code;
       for (int good = 0; good < MOST_GOODS; good++) {
         int digit = rest % 3;
         rest /= 3;
         if (digit == 0) continue;
         piece[good] = 2 * good + digit - 1;
-        left |= 1 << good;
+        all |= 1 << good;
+      }
+      return all;
+    }
+
+    /** Those of several squares: one of a single square needs no trying, it lies wherever the others leave room. */
+    private int larger(int all) {
+      int left = all;
+      for (int good = 0; good < MOST_GOODS; good++) {
+        if ((all >> good & 1) != 0 && spots[piece[good] * SQUARES] == 1) left &= ~(1 << good);
       }
       return left;
     }
 
-    /** How many squares the GOODS would leave empty, below 0 if they have too many. */
-    private int spareOf(int left) {
-      int spare = SQUARES;
+    private int areaOf(int all) {
+      int sum = 0;
       for (int good = 0; good < MOST_GOODS; good++) {
-        if ((left >> good & 1) != 0) spare -= Integer.bitCount(spots[piece[good] * SQUARES]);
+        if ((all >> good & 1) != 0) sum += Integer.bitCount(spots[piece[good] * SQUARES]);
       }
-      return spare;
+      return sum;
     }
   }
 
-  /** A PLAN as it is drawn up, and what it comes to; GOODS not yet decided are out. */
+  /** A PLAN as it is drawn up, and what it comes to; GOODS that are open yet are out. */
   private static final class Draft {
+    private static final int OUT = -1;
+
     private final Book book;
     private final Floor floor;
     int pages;
-    private final int[] views = new int[MOST_PAGES];
+    final int[] views = new int[MOST_PAGES];
     final int[] row = new int[MOST_GOODS];
+    /** By GOOD that is in: its page, and what a PLAIN one would bring in its place. */
+    private final int[] pageAt = new int[MOST_GOODS];
+    private final int[] plain = new int[MOST_GOODS];
     /** By page: how many GOODS, how many squares they have, which they are (in threes). */
     final int[] crowd = new int[MOST_PAGES];
     private final int[] filled = new int[MOST_PAGES];
     final int[] code = new int[MOST_PAGES];
     /** RIVALS that are in, by FAMILY. */
     private final int[] rivals = new int[4];
-    /** What the GOODS from one on can bring at most. */
-    private final int[] hope = new int[MOST_GOODS + 1];
+    /** The most squares that GOODS from one on can have. */
+    private final int[] openArea = new int[MOST_GOODS + 1];
 
     Draft(Book book, Floor floor) {
       this.book = book;
@@ -735,29 +743,42 @@ public final class GoodsBook {
       }
       if (added >= 0 && pages < MOST_PAGES) views[pages++] = added;
       Arrays.fill(row, 0);
+      Arrays.fill(pageAt, OUT);
       Arrays.fill(crowd, 0);
       Arrays.fill(filled, 0);
       Arrays.fill(code, 0);
       Arrays.fill(rivals, 0);
       floor.measureOnce();
+      measureOpen();
+    }
+
+    private void measureOpen() {
+      openArea[book.goods.held] = 0;
+      for (int good = book.goods.held - 1; good >= 0; good--) {
+        int larger = Math.max(book.goods.area(2 * good), book.goods.area(2 * good + 1));
+        openArea[good] = openArea[good + 1] + larger;
+      }
     }
 
     int goods() {
       return book.goods.held;
     }
 
-    void put(int good, int choice) {
-      mark(good, row[good], -1);
-      mark(good, choice, 1);
-      row[good] = choice;
-    }
-
     void putAll(int[] choices) {
       for (int good = 0; good < book.goods.held; good++) put(good, choices[good]);
     }
 
-    private void mark(int good, int choice, int sign) {
+    void put(int good, int choice) {
+      if (row[good] != 0) mark(good, row[good], -1);
+      row[good] = choice;
+      pageAt[good] = OUT;
       if (choice == 0) return;
+      mark(good, choice, 1);
+      pageAt[good] = pageOf(choice);
+      plain[good] = book.goods.sale[2 * good + sizeOf(choice)] * views[pageAt[good]];
+    }
+
+    private void mark(int good, int choice, int sign) {
       int page = pageOf(choice);
       int size = sizeOf(choice);
       crowd[page] += sign;
@@ -766,54 +787,17 @@ public final class GoodsBook {
       if (book.goods.kind[good] == RIVAL) rivals[book.goods.family[good]] += sign;
     }
 
-    /** What a GOOD that is in BRINGS; with some GOODS open, the most that it still may. */
-    int share(int good, int open) {
-      int page = pageOf(row[good]);
-      int plain = book.goods.sale[2 * good + sizeOf(row[good])] * views[page];
-      switch (book.goods.kind[good]) {
-        case LEAD:
-          return plain + book.settings[LEADS] * views[page] * (crowd[page] - 1 + open);
-        case RIVAL:
-          return plain / Math.max(rivals[book.goods.family[good]], 1);
-        case FILLER:
-          boolean canBeFull = filled[page] == SQUARES || filled[page] < SQUARES && open > 0;
-          return canBeFull ? 2 * plain : plain;
-        default:
-          return plain;
-      }
+    int amount() {
+      int sum = brought(book.goods.held);
+      for (int bond = 0; bond < book.bonds.held; bond++) sum += gain(bond);
+      return sum;
     }
 
-    /** The most that a GOOD could bring by a CHOICE, whatever the others do. */
-    int mostOf(int good) {
-      int kind = book.goods.kind[good];
-      int led = kind == LEAD ? book.settings[LEADS] * (book.goods.held - 1) : 0;
-      int times = kind == FILLER ? 2 : 1;
-      int most = 0;
-      for (int choice = 1; choice <= 2 * pages; choice++) {
-        int sale = book.goods.sale[2 * good + sizeOf(choice)];
-        most = Math.max(most, (times * sale + led) * views[pageOf(choice)]);
-      }
-      return most;
-    }
-
-    void reckonHopes() {
-      hope[book.goods.held] = 0;
-      for (int good = book.goods.held - 1; good >= 0; good--) hope[good] = hope[good + 1] + mostOf(good);
-    }
-
-    /** No plan in which the first GOODS are decided so has more WORTH. */
-    int most(int decided) {
-      return reckon(decided) + hope[decided];
-    }
-
-    /** The WORTH by the GOODS that are decided; with some open, the most that these may come to. */
-    int reckon(int decided) {
+    /** What the GOODS that are decided BRING less all costs; with some open, the most that it may become. */
+    int brought(int decided) {
       int sum = 0;
       for (int good = 0; good < decided; good++) {
         if (row[good] != 0) sum += share(good, book.goods.held - decided);
-      }
-      for (int bond = 0; bond < book.bonds.held; bond++) {
-        if (book.bonds.kind[bond] <= ANYWHERE) sum += gain(bond, decided);
       }
       int used = 0;
       for (int page = 0; page < pages; page++) {
@@ -822,30 +806,69 @@ public final class GoodsBook {
       return sum - SIXTIETHS * (used * book.settings[COST] + (used + 1) / 2 * book.settings[POST]);
     }
 
-    /** What the EXTRA of a BOND comes to, or may come to, if one of both is not decided. */
-    private int gain(int bond, int decided) {
-      int a = book.bonds.a[bond];
-      int b = book.bonds.b[bond];
-      int extra = book.bonds.extra[bond];
-      boolean isOut = a < decided && row[a] == 0 || b < decided && row[b] == 0;
-      if (isOut) return 0;
-      if (a >= decided || b >= decided) return SIXTIETHS * Math.max(extra, 0);
-      int pageA = pageOf(row[a]);
-      int pageB = pageOf(row[b]);
+    /** What a GOOD that is in BRINGS; with some GOODS open, the most that it may become. */
+    int share(int good, int open) {
+      int page = pageAt[good];
+      switch (book.goods.kind[good]) {
+        case LEAD:
+          return plain[good] + book.settings[LEADS] * views[page] * (crowd[page] - 1 + open);
+        case RIVAL:
+          return plain[good] / Math.max(rivals[book.goods.family[good]], 1);
+        case FILLER:
+          boolean isFull = filled[page] <= SQUARES && filled[page] + openArea[book.goods.held - open] >= SQUARES;
+          return isFull ? 2 * plain[good] : plain[good];
+        default:
+          return plain[good];
+      }
+    }
+
+    /** The most that GOODS can bring that are open, from one on. */
+    int hope(int from) {
+      int sum = 0;
+      for (int good = from; good < book.goods.held; good++) sum += mostOf(good, book.goods.held - from);
+      return sum;
+    }
+
+    /** The most that a GOOD can bring that is open, one of so many. */
+    int mostOf(int good, int open) {
+      int kind = book.goods.kind[good];
+      int times = kind == FILLER ? 2 : 1;
+      int by = kind == RIVAL ? 1 + rivals[book.goods.family[good]] : 1;
+      int leads = kind == LEAD ? book.settings[LEADS] : 0;
+      int most = 0;
+      for (int page = 0; page < pages; page++) {
+        for (int piece = 2 * good; piece <= 2 * good + 1; piece++) {
+          if (filled[page] + book.goods.area(piece) > SQUARES) continue;
+          int led = leads * (crowd[page] + open - 1);
+          most = Math.max(most, (times * book.goods.sale[piece] + led) * views[page] / by);
+        }
+      }
+      return most;
+    }
+
+    /** What comes by the EXTRA of a BOND. */
+    int gain(int bond) {
+      int pageA = pageAt[book.bonds.a[bond]];
+      int pageB = pageAt[book.bonds.b[bond]];
+      if (pageA == OUT || pageB == OUT) return 0;
       int kind = book.bonds.kind[bond];
       if (kind == ON && pageA != pageB) return 0;
       if (kind == FACING && (Math.min(pageA, pageB) != 1 || Math.max(pageA, pageB) != 2)) return 0;
-      return extra * Math.min(views[pageA], views[pageB]);
+      return book.bonds.extra[bond] * Math.min(views[pageA], views[pageB]);
     }
 
-    private boolean keeps(int bond) {
-      int choiceA = row[book.bonds.a[bond]];
-      int choiceB = row[book.bonds.b[bond]];
+    boolean keeps(int bond) {
+      int pageA = pageAt[book.bonds.a[bond]];
+      int pageB = pageAt[book.bonds.b[bond]];
       int kind = book.bonds.kind[bond];
-      if (choiceA == 0) return true;
-      if (choiceB == 0) return kind != NEEDS;
-      if (kind == NEVER) return pageOf(choiceA) != pageOf(choiceB);
-      return kind != AHEAD || pageOf(choiceA) < pageOf(choiceB);
+      if (pageA == OUT) return true;
+      if (pageB == OUT) return kind != NEEDS;
+      if (kind == NEVER) return pageA != pageB;
+      return kind != AHEAD || pageA < pageB;
+    }
+
+    boolean isFitAt(int good) {
+      return row[good] == 0 || floor.lies(code[pageAt[good]]);
     }
 
     int firstBroken() {
@@ -862,25 +885,6 @@ public final class GoodsBook {
       return NONE;
     }
 
-    boolean isSound() {
-      for (int bond = 0; bond < book.bonds.held; bond++) {
-        if (!keeps(bond)) return false;
-      }
-      for (int page = 0; page < pages; page++) {
-        if (!floor.lies(code[page])) return false;
-      }
-      return true;
-    }
-
-    /** Whether a GOOD may stay as it is: its page fits, its BONDS with GOODS ahead of it are kept. */
-    boolean holds(int good) {
-      for (int bond = 0; bond < book.bonds.held; bond++) {
-        int later = Math.max(book.bonds.a[bond], book.bonds.b[bond]);
-        if (later == good && !keeps(bond)) return false;
-      }
-      return row[good] == 0 || floor.lies(code[pageOf(row[good])]);
-    }
-
     boolean isAheadOf(int[] other) {
       for (int good = 0; good < book.goods.held; good++) {
         if (row[good] != other[good]) return row[good] < other[good];
@@ -895,6 +899,7 @@ public final class GoodsBook {
     private static final int MOST_STEPS = 1000000;
 
     private final Draft draft;
+    private final Bonds bonds;
     /** The PLAN whose CHOICES are counted as like. */
     final int[] like = new int[MOST_GOODS];
     /** What was found, and its WORTH; or the WORTH that it must be above. */
@@ -902,9 +907,15 @@ public final class GoodsBook {
     int amount;
     private boolean isFound;
     private int banned;
+    /** BONDS in the order of the later of both GOODS: those of a GOOD begin at tieFrom[good]. */
+    private final int[] ties = new int[MOST_BONDS];
+    private final int[] tieFrom = new int[MOST_GOODS + 1];
+    /** The most that may come by BONDS whose later GOOD is this one or one behind it. */
+    private final int[] openExtras = new int[MOST_GOODS + 1];
 
-    Search(Draft draft) {
+    Search(Draft draft, Bonds bonds) {
       this.draft = draft;
+      this.bonds = bonds;
     }
 
     /** STEPS of the draft till none betters: how many. */
@@ -912,7 +923,7 @@ public final class GoodsBook {
       int goods = draft.goods();
       for (int count = 0; count < MOST_STEPS; count++) {
         isFound = false;
-        amount = draft.reckon(goods);
+        amount = draft.amount();
         for (int good = 0; good < goods; good++) {
           tryChoices(good);
           tryRounds(good);
@@ -947,10 +958,10 @@ public final class GoodsBook {
     }
 
     private void weigh() {
-      int weight = draft.reckon(draft.goods());
+      int weight = draft.amount();
       if (weight < amount) return;
       if (weight == amount && !(isFound && draft.isAheadOf(row))) return;
-      if (draft.isSound()) keep(weight);
+      if (draft.firstBroken() == NONE && draft.firstCrowded() == NONE) keep(weight);
     }
 
     /**
@@ -961,15 +972,43 @@ public final class GoodsBook {
       amount = above;
       banned = out;
       isFound = false;
-      draft.reckonHopes();
-      decide(this, 0, changes);
+      sortBonds();
+      decide(this, 0, changes, 0);
       return isFound;
     }
 
-    private static void decide(Search search, int good, int changes) {
+    private void sortBonds() {
+      int sorted = 0;
+      int extras = 0;
+      for (int good = 0; good < draft.goods(); good++) {
+        tieFrom[good] = sorted;
+        for (int bond = 0; bond < bonds.held; bond++) {
+          if (Math.max(bonds.a[bond], bonds.b[bond]) == good) ties[sorted++] = bond;
+        }
+      }
+      tieFrom[draft.goods()] = sorted;
+      openExtras[draft.goods()] = 0;
+      for (int good = draft.goods() - 1; good >= 0; good--) {
+        for (int i = tieFrom[good]; i < tieFrom[good + 1]; i++) extras += mostGain(ties[i]);
+        openExtras[good] = extras;
+      }
+    }
+
+    private int mostGain(int bond) {
+      int seen = 0;
+      if (bonds.kind[bond] != FACING) {
+        for (int page = 0; page < draft.pages; page++) seen = Math.max(seen, draft.views[page]);
+      } else if (draft.pages == MOST_PAGES) {
+        seen = Math.min(draft.views[1], draft.views[2]);
+      }
+      return seen * Math.max(bonds.extra[bond], 0);
+    }
+
+    /** Tries all CHOICES of a GOOD, with those ahead of it decided, whose BONDS bring such EXTRAS. */
+    private static void decide(Search search, int good, int changes, int extras) {
       Draft draft = search.draft;
       if (good >= draft.goods()) {
-        search.keep(draft.reckon(good));
+        search.keep(draft.brought(good) + extras);
         return;
       }
       boolean isBanned = good == search.banned;
@@ -978,9 +1017,25 @@ public final class GoodsBook {
         int left = isBanned || choice == search.like[good] ? changes : changes - 1;
         if (left < 0) continue;
         draft.put(good, choice);
-        if (draft.holds(good) && draft.most(good + 1) > search.amount) decide(search, good + 1, left);
+        if (!search.canStay(good)) continue;
+        int sure = extras + search.gainOf(good);
+        int most = draft.brought(good + 1) + draft.hope(good + 1) + sure + search.openExtras[good + 1];
+        if (most > search.amount) decide(search, good + 1, left, sure);
       }
       draft.put(good, 0);
+    }
+
+    private boolean canStay(int good) {
+      for (int i = tieFrom[good]; i < tieFrom[good + 1]; i++) {
+        if (!draft.keeps(ties[i])) return false;
+      }
+      return draft.isFitAt(good);
+    }
+
+    private int gainOf(int good) {
+      int sum = 0;
+      for (int i = tieFrom[good]; i < tieFrom[good + 1]; i++) sum += draft.gain(ties[i]);
+      return sum;
     }
 
     private void keep(int found) {
@@ -1153,7 +1208,7 @@ public final class GoodsBook {
       skip('g');
       int kind = oneOf("plrf");
       int family = oneOf("0123");
-      int number = fault == NOWHERE ? book.addGood(kind, family) : 0;
+      int number = fault == NOWHERE ? book.goods.add(kind, family) : 0;
       aSize(book, number, 0);
       skip(',');
       aSize(book, number, 1);
@@ -1258,7 +1313,7 @@ public final class GoodsBook {
       if (n < 0) return SIZE;
       laneOf[sheet] = lane;
       length[sheet] = n;
-      Arrays.fill(items, sheet * ROOM, (sheet + 1) * ROOM, 0);
+      for (int i = 0; i < ROOM; i++) items[sheet * ROOM + i] = 0;
       return n;
     }
 

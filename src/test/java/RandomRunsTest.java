@@ -21,7 +21,7 @@ public final class RandomRunsTest {
   }
 
   public static void main(String[] args) {
-    int runs = args.length > 0 ? Integer.parseInt(args[0]) : 400;
+    int runs = args.length > 0 ? Integer.parseInt(args[0]) : 1000;
     int from = args.length > 1 ? Integer.parseInt(args[1]) : 0;
     int wrong = 0;
     for (int seed = from; seed < from + runs; seed++) {
@@ -67,7 +67,29 @@ public final class RandomRunsTest {
   }
 
   private void go() {
+    if (upTo(4) > 0) begin();
     for (int i = 0; i < CALLS && !wrong; i++) call();
+  }
+
+  /** Most of what a run can hold, so that the calls behind it have something to ask of. */
+  private void begin() {
+    for (int i = 0; i < mostPages; i++) {
+      int seen = upTo(60);
+      due("page(" + seen + ")", x.page(seen), y.page(seen));
+    }
+    for (int g = 0; g < mostGoods; g++) {
+      int kind = upTo(3), family = upTo(2) / 2;
+      due("good(" + kind + ", " + family + ")", x.good(kind, family), y.good(kind, family));
+      for (int z = 0; z < 2; z++) {
+        int w = 1 + upTo(upTo(3)), h = 1 + upTo(upTo(3)), sale = upTo(w * h * 20);
+        due("size(" + g + ", " + z + ", " + w + ", " + h + ", " + sale + ")", x.size(g, z, w, h, sale), y.size(g, z, w, h, sale));
+      }
+    }
+    int bonds = mostGoods < 2 ? 0 : upTo(upTo(12));
+    for (int i = 0; i < bonds; i++) {
+      int kind = upTo(5), a = upTo(mostGoods - 1), b = (a + 1 + upTo(mostGoods - 2)) % mostGoods, extra = kind > 2 ? 0 : upTo(198) - 99;
+      due("bond(" + kind + ", " + a + ", " + b + ", " + extra + ")", x.bond(kind, a, b, extra), y.bond(kind, a, b, extra));
+    }
   }
 
   private void call() {
@@ -116,7 +138,7 @@ public final class RandomRunsTest {
   private void tellMore() {
     switch (upTo(5)) {
       case 0:
-        int what = about(0, 2), v = what == 0 ? about(0, 99) : about(0, 999);
+        int what = about(0, 2), v = what == 0 ? about(0, 99) : upTo(9) == 0 ? about(0, 999) : upTo(3) * upTo(20);
         due("set(" + what + ", " + v + ")", x.set(what, v), y.set(what, v));
         break;
       case 1:
