@@ -83,7 +83,7 @@ abstract class Edges {
     return x.book();
   }
 
-  /** A book by its text, each clause by itself, so that there may be more than twelve. */
+  /** A book by its text, that may be longer than THE TAPE: as many clauses at once as it takes. */
   static GoodsBook of(String text) {
     GoodsBook x = new GoodsBook();
     add(x, text);
@@ -91,9 +91,23 @@ abstract class Edges {
   }
 
   static void add(GoodsBook x, String text) {
+    StringBuilder part = new StringBuilder();
+    int clauses = 0;
     for (String clause : text.split(";")) {
-      if (read(x, clause) != 1) due("book of '" + clause + "'", 0, 1);
+      if (clauses == 12 || part.length() + clause.length() > 120) {
+        addPart(x, part.toString(), clauses);
+        part.setLength(0);
+        clauses = 0;
+      }
+      part.append(clause).append(';');
+      clauses++;
     }
+    addPart(x, part.toString(), clauses);
+  }
+
+  private static void addPart(GoodsBook x, String part, int clauses) {
+    int answer = read(x, part.substring(0, part.length() - 1));
+    if (answer != clauses) due("book of '" + part + "'", answer, clauses);
   }
 
   static GoodsBook plan(GoodsBook x, int... choices) {
@@ -208,11 +222,14 @@ abstract class Edges {
   }
 
   /** What an object may remember of its answers. */
-  private static void askAhead(GoodsBook x) {
-    x.best(-1);
+  static void askAhead(GoodsBook x) {
     x.steps(-1);
     x.mended(0, -1);
-    x.fits(1);
+    x.best(-1);
+    x.fits(8);
+    x.fits(26);
+    x.squares(0, -1);
+    x.learnt(0, 0);
     x.less(0);
   }
 
@@ -220,8 +237,9 @@ abstract class Edges {
 
   static String look(GoodsBook x) {
     StringBuilder s = new StringBuilder();
-    lookAtBook(x, s);
+    // The answers first: to look at the book, numbers are changed and put back, and that makes an object forget.
     lookAtAnswers(x, s);
+    lookAtBook(x, s);
     lookAtSheets(x, s);
     s.append("\n tape ").append(x.type(' ', 1)).append(' ').append(x.book());
     s.append("\n image ").append(x.restore());

@@ -44,6 +44,8 @@ public final class EdgesOfBestTest extends Edges {
     dueBest("a third PAGE is worth its POST", withSet(of("p60;p60;p60;gp04x4=3,4x4=3;gp04x4=3,4x4=3;gp04x4=3,4x4=3"), 2, 2), "135", 540 - 240);
     dueBest("RIVALS: one alone", of("p2;gr01x1=3,1x1=3;gr01x1=3,1x1=2"), "01", 6);
     dueBest("a FILLER fills", of("p1;gf03x4=5,4x4=5;gp01x4=0,1x1=3"), "11", 10);
+    dueBest("a FILLER is filled by two that sell nothing", of("p1;gf04x2=9,1x1=0;gp01x1=0,4x1=0;gp04x1=0,1x1=0"), "121", 18);
+    dueBest("the same, it comes last", of("p1;gp01x1=0,4x1=0;gp04x1=0,1x1=0;gf01x1=0,4x2=9"), "212", 18);
     dueBest("a LEAD and its company", of("p1;p2;gl01x1=0,1x1=0;gp01x1=1,1x1=0;gp01x1=1,1x1=0"), "333", 4 + 20);
     dueBest("the most of six goods", of("p60;p60;p60;" + "gf04x4=999,4x4=998" + ";gf04x4=999,4x4=998".repeat(5)), "000135", 3 * 119880);
     dueBest("a PAGE of small ones is worth more", of("p60;p60;p60;" + "gf04x4=999,1x1=999" + ";gf04x4=999,1x1=999".repeat(5)), "136666",
@@ -145,6 +147,8 @@ public final class EdgesOfBestTest extends Edges {
     dueSquares("4 by 1 and 1 by 4", of("p1;gp04x1=5,1x1=0;gp01x4=6,1x1=0"), "11", 11);
     dueSquares("six of 1 by 1", of("p60;gp01x1=999,1x1=0" + ";gp01x1=999,1x1=0".repeat(5)), "111111", 6 * 59940);
     dueSquares("six large ones", of("p1;" + SIX_LARGE), "000001", 1);
+    dueSquares("what one takes is not left for others", of("p1;gp01x1=0,1x1=0;gp04x2=5,1x1=0;gp04x3=4,4x2=3"), "012", 8);
+    dueSquares("SIZE 1 takes, too", of("p1;gp01x1=0,1x1=0;gp01x1=0,4x2=5;gp04x2=3,4x3=4"), "021", 8);
     says(23, "of like ones the first as a row (0 out, 1 SIZE 0, 2 SIZE 1)");
     dueSquares("an unseen PAGE", of("p0;gp01x1=9,1x1=9"), "0", 0);
     dueSquares("nothing sells", of("p9;gp01x1=0,1x1=0;gp01x1=1,1x1=2"), "02", 18);
@@ -183,6 +187,8 @@ public final class EdgesOfBestTest extends Edges {
     due("17 squares at 0", of("p1;gp04x4=1,1x1=0;gp01x1=9,1x1=0").squares(0, -2), 1);
     due("an unseen PAGE", of("p0;gp04x4=9,4x4=9;gp04x4=9,4x4=9").squares(0, -2), 0);
     due("nothing sells", of("p60;gp04x4=0,4x4=0;gp04x4=0,4x4=0").squares(0, -2), 0);
+    due("SIZE 1 of the second", of("p1;gp04x4=1,1x1=0;gp01x1=0,4x4=5").squares(0, -2), 1);
+    due("each GOOD has its own SIZES", of("p1;gp01x1=1,4x3=9;gp01x1=1,1x1=1").squares(0, -2), 0);
     says(23, "if that is above 0");
     due("two large ones, 16 by 16: at 0 it is out", of("p16;gp04x4=16,1x1=0;gp04x4=16,1x1=0").squares(0, -2), 16);
     due("two large ones, 1 more", of("p1;gp04x4=257,1x1=0;gp04x4=257,1x1=0").squares(0, -2), 17);
@@ -260,6 +266,9 @@ public final class EdgesOfBestTest extends Edges {
     dueSteps("in and out changed round", planned("p1;gp04x4=3,4x4=3;gp04x4=4,4x4=4", 1, 0), "01", 4, 1);
     // Good 0 is worth most as SIZE 1, and so is good 1; with both so, they have no room.
     dueSteps("SIZES changed round", planned("p1;gp04x1=1,4x3=9;gp04x1=5,4x3=6", 1, 2), "21", 14, 1);
+    says(25, "CHOICES of PAGES that there are");
+    dueSteps("no PAGE to go to", planned("p1;gp01x1=5,1x1=5;gp01x1=0,1x1=0;abn;abo-3", 1, 1), "11", 2, 0);
+    dueSteps("a PAGE to go to", planned("p1;p0;gp01x1=5,1x1=5;gp01x1=0,1x1=0;abn;abo-3", 1, 1), "13", 5, 1);
     says(25, "THE PLAN stays");
     GoodsBook x = planned("p1;p2;gp01x1=3,1x1=4", 1);
     dueSteps("one step", x, "4", 8, 1);
@@ -298,6 +307,7 @@ public final class EdgesOfBestTest extends Edges {
     due("a second faces none", of("p60;gp01x1=0,1x1=0;gp01x1=0,1x1=0;abf+3").more(60), 0);
     due("its COST is more", withSet(of("p60;gp04x4=9,4x4=9;gp04x4=7,4x4=7"), 1, 7).more(60), 0);
     due("its COST is less", withSet(of("p60;gp04x4=9,4x4=9;gp04x4=7,4x4=7"), 1, 6).more(60), 60);
+    due("an unseen one gives room to what is needed", of("p60;gp04x4=9,4x4=9;gp01x1=0,1x1=0;abn").more(0), 540);
     GoodsBook x = of("p60;gp04x4=9,4x4=9;gp04x4=7,4x4=7");
     due("more(60)", x.more(60), 420);
     due("the PAGES stay", x.count(0), 1);
@@ -324,6 +334,8 @@ public final class EdgesOfBestTest extends Edges {
     due("THE PLAN stays", x.count(4), 2);
     due("the best stays", x.best(-1), 410);
     due("its COST is spared, but not gained", withSet(of("p60;gp01x1=9,1x1=9"), 1, 9).less(0), 0);
+    due("an unseen one gave room to what is needed", of("p60;p0;gp04x4=9,4x4=9;gp01x1=0,1x1=0;abn").less(1), -540);
+    due("no room for what is needed, with it or without", of("p60;gp04x4=9,4x4=9;gp01x1=0,1x1=0;abn").less(0), 0);
     says(27, "PAGES behind it go one down, which lie open together is by new numbers");
     GoodsBook facing = of("p7;p5;p3;gp04x4=0,4x4=0;gp04x4=0,4x4=0;abf+1");
     for (int p = 0; p < 3; p++) due("less(" + p + "): none face", facing.less(p), -3);
@@ -395,6 +407,12 @@ public final class EdgesOfBestTest extends Edges {
     dueMended("four of five go", six, 5, "000010", 1, 4);
     String round = "p9" + ";gp01x1=1,1x1=1".repeat(6) + ";ban;can;dan;ean;fan";
     dueMended("all five go", planned(round, 1, 1, 1, 1, 1, 1), 0, "000000", 0, 5);
+    String both = "gp04x4=5,4x4=5;gp04x4=5,4x4=5;gp01x1=0,1x1=0;abn;ban";
+    dueMended("no PAGE to go to", planned("p1;" + both, 1, 1, 0), 2, "000", 0, 2);
+    dueMended("a PAGE to go to", planned("p1;p0;" + both, 1, 1, 0), 2, "130", 5, 1);
+    GoodsBook after = planned("p1;" + both, 1, 1, 1);
+    due("best asked ahead", after.best(-1), 0);
+    dueMended("best asked ahead", after, 2, "000", 0, 2);
     says(29, "of these the greatest WORTH");
     dueMended("not SOUND: the better way", planned("p1;p2;gp01x1=1,1x1=1;gp01x1=2,1x1=2;gp01x1=3,1x1=3;bcv", 0, 1, 1), 0, "013", 8, 1);
     dueMended("a loss, if least is moved", withSet(planned(three, 1, 1, 0), 1, 9), 0, "010", 2 - 540, 0);

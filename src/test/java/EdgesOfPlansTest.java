@@ -311,6 +311,9 @@ public final class EdgesOfPlansTest extends Edges {
     GoodsBook pushed = planned("p1;gp01x1=0,1x1=0;gp02x2=0,1x1=0;gp04x2=0,1x1=0;gp01x2=0,1x1=0;gp01x1=0,1x1=0", 1, 1, 1, 1, 1);
     String where = row(pushed, GoodsBook::square).replace("-", "m");
     due("the first counts most", where, "01834");
+    GoodsBook wheel = planned("p1;gp02x2=0,1x1=0;gp03x1=0,1x1=0;gp01x3=0,1x1=0;gp03x1=0,1x1=0;gp01x3=0,1x1=0", 1, 1, 1, 1, 1);
+    int[] spokes = {5, 0, 3, 13, 4};
+    for (int g = 0; g < 5; g++) due("a wheel round 2 by 2, good " + g, wheel.square(g), spokes[g]);
     says(18, "upright as told");
     GoodsBook upright = planned("p1;gp04x3=0,1x1=0;gp01x4=0,4x1=0", 1, 1);
     due("1 by 4 beside 4 by 3 can't lie", upright.square(0), NONE);
@@ -435,6 +438,14 @@ public final class EdgesOfPlansTest extends Edges {
     due("3 by 2, two", of("gp03x2=0,1x1=0;gp03x2=0,1x1=0").fits(4), 1);
     due("3 by 2 and 2 by 3", of("gp03x2=0,1x1=0;gp02x3=0,1x1=0").fits(4), 0);
     due("a wheel", of("gp03x1=0,1x1=0;gp01x3=0,1x1=0;gp03x1=0,1x1=0;gp01x3=0,1x1=0;gp02x2=0,1x1=0").fits(121), 1);
+    for (int g = 0; g < 6; g++) {
+      int other = (g + 1) % 6;
+      GoodsBook y = of("gp01x1=0,1x1=0" + ";gp01x1=0,1x1=0".repeat(5));
+      y.size(g, 1, 2, 2, 0);
+      y.size(other, 1, 3, 3, 0);
+      due("SIZES 1 of " + g + " and " + other + " can't lie", y.fits(2 * threes[g] + 2 * threes[other]), 0);
+      due("each of them can", y.fits(2 * threes[g] + threes[other]) + y.fits(threes[g] + 2 * threes[other]), 2);
+    }
     due("no pages are needed", of("gp04x4=0,4x4=0").fits(2), 1);
     says(20, "BAD");
     int[] all = {1, 3, 9, 27, 81, 243, 729};

@@ -110,6 +110,7 @@ public final class EdgesOfYearsAndSheetsTest extends Edges {
     due("SIZE 1 alone, 7", taught(1, 7).learnt(1, 3), 0);
     due("FLAT and DOUBLE", taught(0, 3, 1, 4).learnt(1, 3), 2);
     due("DOUBLE and STEEP", taught(0, 3, 1, 8).learnt(1, 3), 4);
+    due("FLAT and DOUBLE, but STEEP is less", taught(0, 0, 0, 0, 1, 4).learnt(1, 3), 0);
   }
 
   private static void image() {
@@ -201,17 +202,15 @@ public final class EdgesOfYearsAndSheetsTest extends Edges {
     x.page(1);
     x.seen(0, 59);
     x.good(1, 1);
-    for (int g = 0; g < 6; g++) {
-      x.size(g, 0, 3, 2, 77);
-      x.size(g, 1, 2, 3, 78);
-      x.year(g, 0, 555);
-      x.choose(g, 2);
-    }
+    x.size(0, 0, 3, 2, 77);
+    x.size(1, 1, 2, 3, 78);
+    x.year(0, 0, 555);
+    x.choose(0, 2);
+    x.choose(1, 0);
     x.bond(2, 0, 1, 50);
     x.extra(0, -50);
     for (int what = 0; what < 3; what++) x.set(what, 44);
     x.take();
-    x.best(-1);
     x.steps(-1);
     x.mended(0, -1);
   }

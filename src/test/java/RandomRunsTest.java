@@ -2,6 +2,7 @@ import java.util.Random;
 
 /** Runs of calls by chance (always the same ones) on GoodsBook and on PlainBook: both must answer alike. */
 public final class RandomRunsTest {
+  /** What an object answers behind so many calls is free. */
   private static final int CALLS = 512;
 
   private final Random chance;
@@ -11,6 +12,7 @@ public final class RandomRunsTest {
   private final int mostGoods;
   private final int mostPages;
   private int heavyLeft;
+  private int calls;
   private boolean wrong;
 
   private RandomRunsTest(long seed, int mostGoods, int mostPages, int heavyLeft) {
@@ -60,6 +62,7 @@ public final class RandomRunsTest {
   }
 
   private void due(String call, int got, int want) {
+    calls++;
     if (told.length() < 20000) told.append("\n  ").append(call).append(" -> ").append(got);
     if (got == want) return;
     wrong = true;
@@ -68,7 +71,7 @@ public final class RandomRunsTest {
 
   private void go() {
     if (upTo(4) > 0) begin();
-    for (int i = 0; i < CALLS && !wrong; i++) call();
+    for (int i = 0; i < CALLS && calls < CALLS && !wrong; i++) call();
   }
 
   /** Most of what a run can hold, so that the calls behind it have something to ask of. */
@@ -242,7 +245,7 @@ public final class RandomRunsTest {
   private void text() {
     String text = upTo(30) == 0 ? "" : clauses();
     if (upTo(2) == 0) text = spoilt(text);
-    for (int at = 0; at < text.length(); ) {
+    for (int at = 0; at < text.length() && calls < CALLS - 1; ) {
       int n = Math.min(1 + upTo(7), text.length() - at);
       long w = chance.nextLong();
       for (int i = 0; i < n; i++) w = w << 8 | text.charAt(at + i);
