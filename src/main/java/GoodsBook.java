@@ -833,7 +833,7 @@ public final class GoodsBook {
     int mostOf(int good, int open) {
       int kind = book.goods.kind[good];
       int times = kind == FILLER ? 2 : 1;
-      int by = kind == RIVAL ? 1 + rivals[book.goods.family[good]] : 1;
+      int by = kind == RIVAL ? Math.max(1 + rivals[book.goods.family[good]], 1) : 1;
       int leads = kind == LEAD ? book.settings[LEADS] : 0;
       int most = 0;
       for (int page = 0; page < pages; page++) {
