@@ -591,6 +591,8 @@ public final class GoodsBook {
     private final byte[] known = new byte[ALL_THREES];
     /** The squares that a piece (a SIZE of a GOOD) covers as bits, by piece and square; 0 where it is not within. */
     private final int[] spots = new int[2 * MOST_GOODS * SQUARES];
+    /** How many squares a piece covers. */
+    private final int[] areas = new int[2 * MOST_GOODS];
     /** The pieces of the code in hand, by GOOD. */
     private final int[] piece = new int[MOST_GOODS];
     private boolean isMeasured;
@@ -608,6 +610,7 @@ public final class GoodsBook {
       if (isMeasured) return;
       Arrays.fill(known, (byte) UNKNOWN);
       for (int p = 0; p < 2 * goods.held; p++) {
+        areas[p] = goods.area(p);
         for (int square = 0; square < SQUARES; square++) spots[p * SQUARES + square] = cover(p, square);
       }
       isMeasured = true;
@@ -695,7 +698,7 @@ public final class GoodsBook {
     private int larger(int all) {
       int left = all;
       for (int good = 0; good < MOST_GOODS; good++) {
-        if ((all >> good & 1) != 0 && spots[piece[good] * SQUARES] == 1) left &= ~(1 << good);
+        if ((all >> good & 1) != 0 && areas[piece[good]] == 1) left &= ~(1 << good);
       }
       return left;
     }
@@ -703,7 +706,7 @@ public final class GoodsBook {
     private int areaOf(int all) {
       int sum = 0;
       for (int good = 0; good < MOST_GOODS; good++) {
-        if ((all >> good & 1) != 0) sum += Integer.bitCount(spots[piece[good] * SQUARES]);
+        if ((all >> good & 1) != 0) sum += areas[piece[good]];
       }
       return sum;
     }
@@ -813,7 +816,8 @@ public final class GoodsBook {
         case LEAD:
           return plain[good] + book.settings[LEADS] * views[page] * (crowd[page] - 1 + open);
         case RIVAL:
-          return plain[good] / Math.max(rivals[book.goods.family[good]], 1);
+          int sharers = rivals[book.goods.family[good]];
+          return sharers > 1 ? plain[good] / sharers : plain[good];
         case FILLER:
           boolean isFull = filled[page] <= SQUARES && filled[page] + openArea[book.goods.held - open] >= SQUARES;
           return isFull ? 2 * plain[good] : plain[good];
